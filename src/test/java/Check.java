@@ -1,0 +1,30 @@
+/** Compares answers with those that are due, and ends a test with the exit code that .ci/run reads. */
+final class Check {
+    private static int wrong = 0;
+
+    private Check() {
+    }
+
+    static void due(String what, long got, long want) {
+        if (got != want) {
+            wrong++;
+            System.out.println(what + " answered " + got + ", due is " + want);
+        }
+    }
+
+    static void holds(String what, boolean truth) {
+        if (!truth) {
+            wrong++;
+            System.out.println(what + " does not hold");
+        }
+    }
+
+    static void refused(String what, long got) {
+        due(what, got, -1000000L);
+    }
+
+    static void end() {
+        System.out.println(wrong == 0 ? "all answers are as due" : wrong + " answers are not as due");
+        System.exit(wrong == 0 ? 0 : 1);
+    }
+}
