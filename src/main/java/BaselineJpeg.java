@@ -30,6 +30,7 @@ public final class BaselineJpeg {
     private int nextQuality = 1;
     private int nextInterval = BLOCKS;
     // What is stored keeps its own quality and interval: setting new ones must not change what is shown or lost.
+    // Both are 1 or more at all times, as only values that were looked at are set: they may divide.
     private int storedQuality = 1;
     private int storedInterval = BLOCKS;
 
@@ -240,7 +241,7 @@ public final class BaselineJpeg {
         }
     }
 
-    /** D of the document, for the quality stored; never below 16384, so it may divide. */
+    /** D of the document, for the quality stored; 16384 or more, so it may divide. */
     private int stepAt(int u, int v) {
         return STEP_UNIT * storedQuality * (2 + u + v);
     }

@@ -1,6 +1,6 @@
 /**
- * The document's words turned into code once more, apart from the program: it keeps the picture as it
- * was when stored and which segments are lost, and works every answer out anew from the formulas.
+ * The document's words turned into code once more, apart from the program: it keeps all levels stored
+ * and which segments are lost, so that a loss is seen from another side than in the program.
  */
 final class Reference {
     static final int BAD_ARG = -1000000;
