@@ -1,8 +1,24 @@
 /** Compares answers with those that are due, and ends a test with the exit code that .ci/run reads. */
 final class Check {
+    private static int tests = 0;
     private static int wrong = 0;
 
     private Check() {
+    }
+
+    /** A test of its own: its name is told when an answer in it is wrong, and when it throws. */
+    static void test(String name, Runnable body) {
+        int before = wrong;
+        tests++;
+        try {
+            body.run();
+        } catch (RuntimeException | Error thrown) {
+            wrong++;
+            System.out.println("thrown: " + thrown);
+        }
+        if (wrong != before) {
+            System.out.println("FAILED: " + name);
+        }
     }
 
     static void due(String what, long got, long want) {
@@ -24,7 +40,8 @@ final class Check {
     }
 
     static void end() {
-        System.out.println(wrong == 0 ? "all answers are as due" : wrong + " answers are not as due");
+        String of = tests == 0 ? "" : " (" + tests + " tests)";
+        System.out.println((wrong == 0 ? "all answers are as due" : wrong + " answers are not as due") + of);
         System.exit(wrong == 0 ? 0 : 1);
     }
 }

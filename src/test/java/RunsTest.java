@@ -18,7 +18,6 @@ public final class RunsTest {
             seed = 1000 + run;
             shortRun(run);
         }
-        refusalsChangeNothing();
         Check.holds("some grey was cut at black", cutAtBlack > 0);
         Check.holds("some grey was cut at white", cutAtWhite > 0);
         Check.holds("some level was a half before it was rounded", halves > 0);
@@ -45,41 +44,6 @@ public final class RunsTest {
             calls.add(anyCall(12));
         }
         WholeState.check("short run " + run, calls);
-    }
-
-    /** Each argument of each method just outside its range, with the others inside; the reference leaves all as it was. */
-    private static void refusalsChangeNothing() {
-        List<int[]> before = List.of(Calls.call("ramp", 30, 11, -4), Calls.call("quality", 2), Calls.call("interval", 3),
-            Calls.call("store"), Calls.call("lose", 3), Calls.call("weave", 1), Calls.call("quality", 5),
-            Calls.call("interval", 1));
-        for (int method = 0; method < Calls.METHODS; method++) {
-            for (int argument = 0; argument < Calls.arguments(method); argument++) {
-                refusal(before, method, argument, Calls.least(method, argument) - 1);
-                refusal(before, method, argument, Calls.greatest(method, argument) + 1);
-                for (int far : FAR) {
-                    if (far < Calls.least(method, argument) || far > Calls.greatest(method, argument)) {
-                        refusal(before, method, argument, far);
-                    }
-                }
-            }
-        }
-    }
-
-    private static void refusal(List<int[]> before, int method, int argument, int wrong) {
-        int[] call = new int[4];
-        call[0] = method;
-        for (int k = 0; k < Calls.arguments(method); k++) {
-            call[k + 1] = Calls.least(method, k);
-        }
-        call[argument + 1] = wrong;
-        BaselineJpeg x = new BaselineJpeg();
-        for (int[] earlier : before) {
-            Calls.answer(x, earlier);
-        }
-        Check.refused("refusal of " + Calls.text(call), Calls.answer(x, call));
-        List<int[]> run = new ArrayList<>(before);
-        run.add(call);
-        WholeState.check("after the refused " + Calls.text(call), run);
     }
 
     private static int[] anyCall(int oneInWrong) {
